@@ -50,8 +50,7 @@ public final class WhoOpensOne {
     private boolean somethingKept;
     private final Shelf[] shelves = new Shelf[SHELVES];
     private final Tape tape = new Tape();
-    private final Plan plan = new Plan();
-    private final Search search = new Search(plan);
+    private final Search search = new Search();
     private final Lasting lasting = new Lasting();
     private final int[] refusals = new int[REFUSAL_SORTS];
 
@@ -362,8 +361,7 @@ public final class WhoOpensOne {
         if (now.doorCount > MOST_SEARCHED) {
             return refuse(STUCK);
         }
-        plan.lay(now, one);
-        return search.roomsFrom(now.openBits, now.rooms[one]);
+        return search.roomsFor(now, one);
     }
 
     public int first(int one, int room) {
@@ -399,8 +397,7 @@ public final class WhoOpensOne {
             }
             search.addGoal((int) goal);
         }
-        plan.lay(now, one);
-        return search.fewest(now.openBits, now.rooms[one]);
+        return search.fewestFor(now, one);
     }
 
     public int lost() {
@@ -639,8 +636,7 @@ public final class WhoOpensOne {
     private int fewestTo(int one, int room) {
         search.forgetGoals();
         search.addGoal(room);
-        plan.lay(now, one);
-        return search.fewest(now.openBits, now.rooms[one]);
+        return search.fewestFor(now, one);
     }
 
     /** Plays told acts on the trial house; answers where they are WRONG, or NONE. */
@@ -1341,7 +1337,7 @@ public final class WhoOpensOne {
 
         private final int[] goals = new int[MOST_ERRANDS];
         private int goalCount;
-        private final Plan plan;
+        private final Plan plan = new Plan();
         private int[] seen = new int[0];
         private int[] queue = new int[0];
         private int base = 1;
@@ -1350,10 +1346,6 @@ public final class WhoOpensOne {
         private boolean found;
         private int foundFirsts;
         private int roomsSeen;
-
-        Search(Plan plan) {
-            this.plan = plan;
-        }
 
         void forgetGoals() {
             goalCount = 0;
@@ -1366,22 +1358,26 @@ public final class WhoOpensOne {
             }
         }
 
-        int fewest(int openBits, int room) {
+        int fewestFor(House house, int one) {
+            plan.lay(house, one);
             begin();
+            int room = house.rooms[one];
             int bounds = plan.partOf((1 << plan.doors) - 1, room);
             for (int i = 0; i < goalCount; i++) {
                 if ((bounds >> goals[i] & 1) == 0) {
                     return NONE;
                 }
             }
-            return spread(openBits, room, 0);
+            return spread(house.openBits, room, 0);
         }
 
-        int roomsFrom(int openBits, int room) {
+        int roomsFor(House house, int one) {
             forgetGoals();
             addGoal(NOWHERE);
+            plan.lay(house, one);
             begin();
-            spread(openBits, room, plan.partOf((1 << plan.doors) - 1, room));
+            int room = house.rooms[one];
+            spread(house.openBits, room, plan.partOf((1 << plan.doors) - 1, room));
             return roomsSeen;
         }
 

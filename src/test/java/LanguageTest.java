@@ -1,0 +1,110 @@
+import java.io.IOException;
+import java.lang.reflect.Constructor;
+import java.lang.reflect.Field;
+import java.lang.reflect.Method;
+import java.lang.reflect.Modifier;
+import java.nio.file.Files;
+import java.nio.file.Path;
+import java.util.Arrays;
+import java.util.Set;
+import java.util.TreeSet;
+import java.util.regex.Matcher;
+import java.util.regex.Pattern;
+
+/** The face as the document has it, and those rules of LANGUAGE.md that can be seen from outside. */
+public final class LanguageTest {
+    private static final String FACE = "row(int,int,int) set(int,int,long) copy(int,int,int,int,int) element(int,int) holds(int) "
+            + "show(int,int) says(int,int) door(int,int,int) one(int) ask(int,int) stand(int,boolean) move(int,int) feed(int,int) "
+            + "wipe() house() doorOf(int,int) where(int) doors(int,int) may(int,int,int) by(int,int,int) ways(int,int,int) "
+            + "walk(int,int) shut(int,int) open(int,int,int) reach(int) shutIn() coming(int,int) all(int) first(int,int) "
+            + "errands(int,int,int) lost() stock() lasts() worth(int) spare() endless() boxes(int) judge(int,int) "
+            + "told(int,int,int) evening(int) night() seed(int) image() back() status(int)";
+    private static final String[] BANNED = {"throw", "throws", "try", "catch", "finally", "synchronized", "assert", "import",
+        "package", "->", "::", "Exact", "System\\.(?!arraycopy)", "transient", "volatile", "native", "var", "yield"};
+
+    private static int wrong = 0;
+
+    private static void hold(boolean fine, String what) {
+        if (!fine) {
+            wrong++;
+            System.out.println(what);
+        }
+    }
+
+    public static void main(String[] args) throws IOException {
+        face();
+        members();
+        source(Files.readString(Path.of("src/main/java/WhoOpensOne.java")));
+        System.out.println(wrong == 0 ? "the rules are kept" : wrong + " rules are broken");
+        if (wrong != 0) {
+            System.exit(1);
+        }
+    }
+
+    private static void face() {
+        Set<String> want = new TreeSet<>(Arrays.asList(FACE.split(" ")));
+        Set<String> has = new TreeSet<>();
+        for (Method m : WhoOpensOne.class.getDeclaredMethods()) {
+            StringBuilder types = new StringBuilder();
+            for (Class<?> type : m.getParameterTypes()) {
+                types.append(types.length() == 0 ? "" : ",").append(type.getName());
+            }
+            String name = m.getName() + "(" + types + ")";
+            if (Modifier.isPublic(m.getModifiers())) {
+                has.add(name);
+                Class<?> due = m.getName().equals("element") ? long.class : int.class;
+                hold(m.getReturnType() == due && !Modifier.isStatic(m.getModifiers()), name + " has another shape");
+            } else {
+                hold(Modifier.isPrivate(m.getModifiers()), name + " is neither public nor private");
+                hold(!FACE.contains(" " + m.getName() + "("), name + " bears the name of a public one");
+            }
+        }
+        hold(has.equals(want), "the face is " + has);
+        Constructor<?>[] made = WhoOpensOne.class.getDeclaredConstructors();
+        hold(made.length == 1 && made[0].getParameterCount() == 0 && Modifier.isPublic(made[0].getModifiers()), "constructors");
+        int kind = WhoOpensOne.class.getModifiers();
+        hold(Modifier.isPublic(kind) && Modifier.isFinal(kind), "the class is not public and final");
+    }
+
+    private static void members() {
+        hold(WhoOpensOne.class.getDeclaredClasses().length <= 12, "too many classes");
+        checkFields(WhoOpensOne.class);
+        for (Class<?> inner : WhoOpensOne.class.getDeclaredClasses()) {
+            hold(Modifier.isStatic(inner.getModifiers()), inner + " is not static");
+            checkFields(inner);
+            for (Method m : inner.getDeclaredMethods()) {
+                hold(!(" " + FACE).contains(" " + m.getName() + "("), m + " bears the name of a public one");
+                hold(m.getParameterCount() <= 7, m + " takes too much");
+            }
+        }
+    }
+
+    private static void checkFields(Class<?> type) {
+        int own = 0;
+        for (Field f : type.getDeclaredFields()) {
+            int modifiers = f.getModifiers();
+            own += Modifier.isStatic(modifiers) ? 0 : 1;
+            hold(!Modifier.isStatic(modifiers) || Modifier.isFinal(modifiers), f + " is static and not final");
+            boolean constant = type == WhoOpensOne.class && f.getName().equals("NONE");
+            hold(constant ? Modifier.isPublic(modifiers) : Modifier.isPrivate(modifiers), f + " can be seen otherwise than due");
+        }
+        hold(own <= 20, type + " has too many fields");
+    }
+
+    private static void source(String text) {
+        String code = text.replaceAll("(?s)/\\*.*?\\*/", " ").replaceAll("//[^\n]*", " ").replaceAll("\"[^\"\n]*\"", "\"\"");
+        for (String banned : BANNED) {
+            boolean word = Character.isLetter(banned.charAt(0)) && banned.chars().allMatch(Character::isLetter);
+            Pattern pattern = Pattern.compile(word ? "\\b" + banned + "\\b" : banned);
+            hold(!pattern.matcher(code).find(), "the source has " + banned);
+        }
+        hold(text.chars().allMatch(c -> c < 128), "the source has signs beyond 127");
+        Matcher method = Pattern.compile("(?m)^( {4}| {8})[a-z][\\w\\[\\] ]*\\([^;{]*\\) \\{\n(?s:.*?)\n\\1\\}").matcher(text);
+        int methods = 0;
+        while (method.find()) {
+            methods++;
+            hold(method.group().lines().count() <= 60, "a long method: " + method.group().lines().findFirst().orElse(""));
+        }
+        hold(methods > 60, "the methods were not found");
+    }
+}
