@@ -72,7 +72,7 @@ public final class WhoOpensOne {
         if (!isShelf(s)) {
             return refuse(BAD);
         }
-        int wrong = rowRefusal(shelves[s]);
+        int wrong = rowRefusal(shelves[s], 0);
         if (wrong != 0) {
             return refuse(wrong);
         }
@@ -379,12 +379,9 @@ public final class WhoOpensOne {
             return refuse(BAD);
         }
         Shelf shelf = shelves[s];
-        int wrong = rowRefusal(shelf);
+        int wrong = rowRefusal(shelf, n);
         if (wrong != 0) {
             return refuse(wrong);
-        }
-        if (n > shelf.size) {
-            return refuse(BAD);
         }
         if (now.doorCount > MOST_SEARCHED) {
             return refuse(STUCK);
@@ -474,12 +471,9 @@ public final class WhoOpensOne {
         if (!isShelf(s) || n < 0 || n > MOST_ACTS) {
             return refuse(BAD);
         }
-        int wrong = rowRefusal(shelves[s]);
+        int wrong = rowRefusal(shelves[s], n);
         if (wrong != 0) {
             return refuse(wrong);
-        }
-        if (n > shelves[s].size) {
-            return refuse(BAD);
         }
         return playActs(shelves[s], n);
     }
@@ -489,12 +483,9 @@ public final class WhoOpensOne {
         if (!isShelf(s) || n < 0 || n > MOST_ACTS || (!asksOne && (what < 0 || what > 2))) {
             return refuse(BAD);
         }
-        int wrong = rowRefusal(shelves[s]);
+        int wrong = rowRefusal(shelves[s], n);
         if (wrong != 0) {
             return refuse(wrong);
-        }
-        if (n > shelves[s].size) {
-            return refuse(BAD);
         }
         if (playActs(shelves[s], n) != NONE) {
             return refuse(STUCK);
@@ -610,11 +601,15 @@ public final class WhoOpensOne {
         return number;
     }
 
-    private int rowRefusal(Shelf shelf) {
+    /** Why a shelf has no ROW of so many elements; 0 if it has. */
+    private static int rowRefusal(Shelf shelf, int elements) {
         if (shelf.holdsDoor()) {
             return OTHER;
         }
-        return shelf.isEmpty() ? NOTHING : 0;
+        if (shelf.isEmpty()) {
+            return NOTHING;
+        }
+        return elements > shelf.size ? BAD : 0;
     }
 
     private int saying(int door, int kind) {

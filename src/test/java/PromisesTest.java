@@ -444,7 +444,10 @@ public final class PromisesTest {
         due("door", x.by(0, 5, 4), BAD);
         refused(x, 5, 0, 0, 0, 0);
         x.ask(0, 3);
-        due("law 3 by two gates' worth", x.by(0, 0, 6), 1);
+        due("law 3 by a door and a gate", x.by(0, 0, 6), 1);
+        WhoOpensOne vain = houseOf("door 0 1 2 open; door 2 1 2 open; door 0 1 0; one 1");
+        due("door 0 in vain", vain.by(0, 2, 3), 0);
+        due("the gate alone", vain.by(0, 2, 2), 1);
 
         promise = 22;
         due("law 3", x.ways(0, 0, 0), 2);
@@ -588,6 +591,10 @@ public final class PromisesTest {
         x = houseOf("law 1; one 1; door 0 1 2; door 0 1 0; door 0 1 3 open; door 0 0 1; door 0 2 0");
         due("of several the least", x.first(0, 0), 1);
         due("another room", x.first(0, 2), 0);
+        x = houseOf("door 3 2 3;door 3 1 3;door 0 3 0;door 1 1 1 open;door 1 1 1 open;door 1 2 2 open;door 1 2 2 open;"
+                + "door 5 1 2 open;door 5 2 3 open;one 1");
+        due("both bolts, then out by shutting them", x.coming(0, 0), 3);
+        due("either bolt may be the first", x.first(0, 0), 0);
         due("ten doors", many.first(0, 1), STUCK);
         due("bad before stuck", many.first(0, -1), BAD);
 
@@ -759,6 +766,11 @@ public final class PromisesTest {
         due("nothing", x.told(3, 0, 0), NOTHING);
         due("door", x.told(2, 0, 0), OTHER);
         refused(x, 11, 2, 2, 1, 0);
+        x.row(4, 2, 20);
+        for (int i = 0; i < 20; i++) {
+            x.set(4, i, act(3, 0, 0, 0));
+        }
+        due("twenty acts", x.told(4, 20, 0), 3);
         for (int i = 0; i < 3; i++) {
             x.open(0, 2, 3);
         }
