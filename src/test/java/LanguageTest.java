@@ -22,6 +22,9 @@ public final class LanguageTest {
     private static final String[] BANNED = {"throw", "throws", "try", "catch", "finally", "synchronized", "assert", "import",
         "package", "->", "::", "Exact", "System\\.(?!arraycopy)", "transient", "volatile", "native", "var", "yield"};
 
+    private static final Set<String> LIBRARY = Set.of("Math.max", "Math.min", "Math.abs", "Integer.bitCount",
+            "Integer.numberOfTrailingZeros", "Integer.compare", "System.arraycopy", "Arrays.fill", "Arrays.copyOf");
+
     private static int wrong = 0;
 
     private static void hold(boolean fine, String what) {
@@ -56,7 +59,7 @@ public final class LanguageTest {
                 hold(m.getReturnType() == due && !Modifier.isStatic(m.getModifiers()), name + " has another shape");
             } else {
                 hold(Modifier.isPrivate(m.getModifiers()), name + " is neither public nor private");
-                hold(!FACE.contains(" " + m.getName() + "("), name + " bears the name of a public one");
+                hold(!(" " + FACE).contains(" " + m.getName() + "("), name + " bears the name of a public one");
             }
         }
         hold(has.equals(want), "the face is " + has);
@@ -99,6 +102,11 @@ public final class LanguageTest {
             hold(!pattern.matcher(code).find(), "the source has " + banned);
         }
         hold(text.chars().allMatch(c -> c < 128), "the source has signs beyond 127");
+        Matcher library = Pattern.compile("\\b([A-Z]\\w*[a-z]\\w*)\\.(\\w+)\\(").matcher(code);
+        while (library.find()) {
+            String call = library.group(1) + "." + library.group(2);
+            hold(LIBRARY.contains(call), "the source calls " + call);
+        }
         Matcher method = Pattern.compile("(?m)^( {4}| {8})[a-z][\\w\\[\\] ]*\\([^;{]*\\) \\{\n(?s:.*?)\n\\1\\}").matcher(text);
         int methods = 0;
         while (method.find()) {

@@ -120,6 +120,10 @@ final class PromisesOfActs {
         x = Sentences.house("door 0 1 2; door 1 1 1 open; one 1");
         s.due(x, 0, "ways", 0, 0, 0);
         s.due(x, 0, "status", 15);
+        s.due(Sentences.house("door 1 1 1 open; door 2 1 2 open; door 0 1 2; one 1"), 2, "ways", 0, 2, 1);
+        s.due(Sentences.house("door 0 1 2; door 1 1 1 open; door 1 1 1 open; door 1 1 1 open; one 1"), 6, "ways", 0, 0, 1);
+        s.due(Sentences.house("door 0 1 2; door 1 1 1 open; door 1 1 1 open; door 2 1 3 open; one 1"), 6, "ways", 0, 0, 1);
+        s.due(Sentences.house("door 0 1 2; door 1 1 1 open; door 2 1 3 open; door 2 1 3 open; one 1"), 4, "ways", 0, 0, 1);
 
         s.promise(22, "BAD; STUCK: 1, if there is none.");
         badOneOrDoor(s, "ways", 0);

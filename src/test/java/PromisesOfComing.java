@@ -82,6 +82,10 @@ final class PromisesOfComing {
         s.due(x, 2, "ask", 0, 3);
         s.due(x, 14, "all", 0);
         s.due(Sentences.house(TermsOfWhatCanBe.CHAIN), 255, "all", 0);
+        x = Sentences.house(TermsOfWhatCanBe.CHAIN);
+        TermsOfWhatCanBe.setRow(s, x, 0, 1, 1, 1, 1);
+        s.due(x, 0, "errands", 0, 0, 4);
+        s.due(x, 255, "all", 0);
         s.due(Sentences.house("one 5"), 32, "all", 0);
         s.due(Sentences.house("door 3 0 1; door 1 1 1 open; door 1 1 1 open; one 1; one 0"), 2, "all", 0);
         s.due(Sentences.house("door 3 0 1; door 1 1 1 open; door 1 1 1 open; one 1; one 0"), 3, "all", 1);
@@ -107,6 +111,7 @@ final class PromisesOfComing {
         x = Sentences.house("law 1; one 1; door 0 1 2; door 0 1 0; door 0 1 3 open; door 0 0 1; door 0 2 0");
         s.due(x, 1, "first", 0, 0);
         s.due(x, 0, "first", 0, 2);
+        s.due(x, 1, "first", 0, 0);
         // Both bolts must be opened, in either order, and then be shut together to open the way out.
         x = Sentences.house("door 3 2 3; door 3 1 3; door 0 3 0; door 1 1 1 open; door 1 1 1 open; door 1 2 2 open; door 1 2 2 open;"
                 + "door 5 1 2 open; door 5 2 3 open; one 1");

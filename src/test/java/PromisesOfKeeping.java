@@ -81,6 +81,12 @@ final class PromisesOfKeeping {
         WhoOpensOne x = kept();
         changeAll(x);
         for (int i = 0; i < 8; i++) {
+            s.due(x, 1, "show", i, 3);
+        }
+        s.due(x, 1, "back");
+        s.due(x, 0, "status", 8);
+        changeAll(x);
+        for (int i = 0; i < 8; i++) {
             s.due(x, 1, "show", i, i % 4);
         }
         s.due(x, 8, "status", 8);
@@ -99,6 +105,21 @@ final class PromisesOfKeeping {
         s.due(x, 1, "set", 0, 1, 99);
         s.due(x, 1, "back");
         s.due(x, 99, "element", 0, 1);
+        // Doors and people that are no more leave nothing behind for those who have their numbers next.
+        x = Sentences.house("one 1");
+        s.due(x, 1, "image");
+        for (int kind : new int[] {2, 1, 5, 0, 4, 2, 3, 1}) {
+            s.due(x, 0, "door", kind, 1, 2);
+            s.due(x, 1, "door", 0, 1, 0);
+            s.due(x, 1, "stand", 0, 1);
+            s.due(x, 1, "one", 2);
+            s.due(x, kind == 2 ? 1 : NONE, "coming", 0, 0);
+            s.due(x, kind == 2 ? 2 : kind == 4 || kind == 5 ? 0 : 1, "stock");
+            s.due(x, 1, "back");
+            s.due(x, 0, "status", 0);
+            s.due(x, 0, "status", 1);
+            s.due(x, 1, "status", 2);
+        }
         s.promise(45, "STUCK: nothing was.");
         s.refuses(WhoOpensOne::new, STUCK, "back");
         s.refuses(() -> Sentences.house("door 0 1 2 open; one 1; law 3"), STUCK, "back");

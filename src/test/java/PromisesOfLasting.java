@@ -101,6 +101,7 @@ final class PromisesOfLasting {
         }
         s.due(x, 1, "status", 0);
         s.due(x, 0, "doors", 0, 0);
+        s.due(mixture(2, 0, 3, 1), 0, "boxes", 1);
         s.due(mixture(2, 0, 3, 1), 0, "boxes", 2);
         s.due(mixture(2, 0, 3, 1), 1, "boxes", 3);
         s.due(mixture(4, 0, 0, 1), 4, "boxes", 1);
@@ -111,6 +112,7 @@ final class PromisesOfLasting {
         s.due(mixture(2, 0, 10, 4), 10, "boxes", 19);
         s.due(mixture(2, 2, 0, 2), 2, "boxes", 98);
         s.due(mixture(3, 2, 0, 7, 4, 0, 4, 5, 0, 3), 20, "boxes", 18);
+        s.due(mixture(3, 2, 7, 0, 4, 0, 7), 20, "boxes", 25);
         s.due(mixture(2, 0, 0, 0, 5, 0, 1), 2, "boxes", 1);
         s.due(mixture(1, 5, 0, 14), 2, "boxes", 98);
 

@@ -322,6 +322,18 @@ final class PromisesOfShelves {
             s.due(shown(4, open == 1, 2), 1, "says", 0, 4);
             s.due(shown(4, open == 1, 1, 0, 7, 2), 1, "says", 0, 4);
         }
+        for (int kind = 3; kind <= 4; kind++) {
+            WhoOpensOne x = new WhoOpensOne();
+            s.due(x, 0, "door", kind, 7 * (kind - 3), 7 * (4 - kind));
+            s.due(x, 1, "show", 0, 0);
+            for (int p = 0; p < 4; p++) {
+                s.due(x, 0, "says", 0, kind);
+                s.due(x, p, "one", p + 1);
+            }
+            s.due(x, 0, "says", 0, kind);
+            s.due(x, 4, "move", 3, 0);
+            s.due(x, 1, "says", 0, kind);
+        }
         Supplier<WhoOpensOne> some = PromisesOfShelves::shelved;
         s.promise(8, "BAD SHELF, KIND; OTHER (also if it is of no such KIND nor of one under it); NOTHING.");
         s.refuses(some, BAD, "says", 8, 0);

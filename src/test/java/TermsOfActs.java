@@ -158,6 +158,18 @@ final class TermsOfActs {
                 s.due(x, 0, "by", 0, 0, set);
             }
         }
+        for (int vain = 0; vain < 13; vain++) {
+            WhoOpensOne x = new WhoOpensOne();
+            for (int d = 0; d < 14; d++) {
+                s.call(x, "door", d == vain ? 1 : 2, 1, 2);
+                s.call(x, "stand", d, d < 13 ? 1 : 0);
+            }
+            s.call(x, "one", 1);
+            int gate = vain == 0 ? 1 : 0;
+            s.due(x, 1, "by", 0, 13, 1 << gate);
+            s.due(x, 0, "by", 0, 13, 1 << gate | 1 << vain);
+            s.due(x, 0, "by", 0, 13, 1 << vain);
+        }
     }
 
     private static void done(Sentences s) {

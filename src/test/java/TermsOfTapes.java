@@ -76,6 +76,14 @@ final class TermsOfTapes {
             s.due(x, digit ? 70 + b - '0' : b == ' ' ? 7 : 0, "status", 4);
         }
 
+        for (String text : new String[] {"door 0 1 2", "one 1", "law 1", "wind 1", "one 1;moves 0 1", "door 0 1 2 open"}) {
+            int begin = Math.max(text.indexOf(';') + 1, text.lastIndexOf(' ') == 10 ? 11 : 0);
+            for (int i = begin; i < text.length() && Character.isLetter(text.charAt(i)); i++) {
+                read(s, -20 - begin, text.substring(0, i) + 'q' + text.substring(i + 1));
+                read(s, -20 - begin, text.substring(0, i) + text.charAt(i) + text.substring(i));
+            }
+        }
+
         s.terms("- blanks (32) may stand anywhere between.");
         x = read(s, 2, "   door   3   4   2   open   ;   one   5   ");
         s.due(x, 1, "doors", 0, 0);

@@ -11,6 +11,7 @@ final class TermsOfWhatCanBe {
 
     static void tryAll(Sentences s) {
         actsOfOneAlone(s);
+        sets(s);
         fewest(s);
         errands(s);
         nineDoors(s);
@@ -46,6 +47,39 @@ final class TermsOfWhatCanBe {
         x = Sentences.house("door 3 0 1; door 1 1 1 open; door 1 1 1 open; one 1; one 0");
         s.due(x, NONE, "coming", 0, 0);
         s.due(x, 1, "coming", 1, 1);
+        x = Sentences.house("door 3 5 1; door 1 5 5 open; door 1 5 5 open; one 1");
+        s.due(x, NONE, "coming", 0, 5);
+        s.due(x, 1, "move", 0, 5);
+        s.due(x, 1, "coming", 0, 1);
+        x = Sentences.house("door 1 5 5 open; door 1 6 6 open; door 0 1 0; one 5; one 1; one 6");
+        s.due(x, 1, "coming", 1, 0);
+        s.due(x, 6, "move", 2, 5);
+        s.due(x, NONE, "coming", 1, 0);
+    }
+
+    private static void sets(Sentences s) {
+        s.terms("OPENING with any such set,");
+        for (int law = 1; law <= 4; law++) {
+            WhoOpensOne x = Sentences.house("door 2 1 2 open; door 2 1 2 open; door 0 1 0; one 1; law " + law);
+            s.due(x, 1, "coming", 0, 0);
+            s.due(x, 1, "stand", 0, 0);
+            s.due(x, law <= 2 ? 1 : NONE, "coming", 0, 0);
+            x = Sentences.house("door 1 1 1 open; door 1 1 1 open; door 1 1 1 open; door 1 1 1 open; door 0 1 0; door 1 5 5; door 1 5 5;"
+                    + "door 1 5 5; door 1 5 5; one 1; law " + law);
+            for (int shut = 0; shut <= 4; shut++) {
+                s.due(x, 4 - shut >= law ? 1 : NONE, "coming", 0, 0);
+                s.call(x, "stand", shut, 0);
+            }
+        }
+        // Under law 1 a lid is left for the second door; under law 2 both are gone with the first.
+        WhoOpensOne x = Sentences.house("door 1 1 1 open; door 1 1 1 open; door 0 1 2; door 0 2 0; one 1; one 1");
+        s.due(x, 2, "ask", 0, 1);
+        s.due(x, 2, "coming", 0, 0);
+        s.due(x, 1, "ask", 0, 2);
+        s.due(x, NONE, "coming", 0, 0);
+        s.due(x, 1, "coming", 0, 2);
+        s.due(x, 2, "ask", 0, 1);
+        s.due(x, 2, "coming", 0, 0);
     }
 
     private static void fewest(Sentences s) {
@@ -220,6 +254,8 @@ final class TermsOfWhatCanBe {
         s.due(mixture(3, 2, 7, 7), 6, "lasts");
         s.due(mixture(4, 2, 7, 7), 6, "lasts");
         s.due(mixture(1, 0, 14, 0), 0, "lasts");
+        s.due(mixture(1, 2, 2, 0), 0, "lasts");
+        s.due(mixture(1, 2, 1, 0, 5, 0, 1), 1, "lasts");
     }
 
     private static void worth(Sentences s) {
@@ -245,6 +281,8 @@ final class TermsOfWhatCanBe {
             s.due(mixture(law, 0, 1, 0), 0, "endless");
             s.due(mixture(law, 2, 0, 2, 0, 2, 0), 6, "endless");
             s.due(mixture(law, 2, 7, 7), 6, "endless");
+            s.due(mixture(law, 0, 0, 1), 0, "endless");
+            s.due(mixture(law, 2, 0, 2, 0, 1, 0), 2, "endless");
         }
         s.due(new WhoOpensOne(), 0, "endless");
         WhoOpensOne x = mixture(3, 2, 1, 1);
