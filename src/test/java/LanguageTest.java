@@ -6,7 +6,9 @@ import java.lang.reflect.Modifier;
 import java.nio.file.Files;
 import java.nio.file.Path;
 import java.util.Arrays;
+import java.util.Map;
 import java.util.Set;
+import java.util.TreeMap;
 import java.util.TreeSet;
 import java.util.regex.Matcher;
 import java.util.regex.Pattern;
@@ -24,6 +26,11 @@ public final class LanguageTest {
 
     private static final Set<String> LIBRARY = Set.of("Math.max", "Math.min", "Math.abs", "Integer.bitCount",
             "Integer.numberOfTrailingZeros", "Integer.compare", "System.arraycopy", "Arrays.fill", "Arrays.copyOf");
+
+    private static final Pattern METHOD = Pattern.compile("(?m)^(?<indent> {4}| {8})[a-z][\\w\\[\\] ]* (?<name>[a-z]\\w*)"
+            + "\\([^;{]*\\) \\{\n(?<body>(?s:.*?))\n\\k<indent>\\}");
+    private static final int MOST_LINES = 60;
+    private static final int MOST_DEEP = 8;
 
     private static int wrong = 0;
 
@@ -107,12 +114,42 @@ public final class LanguageTest {
             String call = library.group(1) + "." + library.group(2);
             hold(LIBRARY.contains(call), "the source calls " + call);
         }
-        Matcher method = Pattern.compile("(?m)^( {4}| {8})[a-z][\\w\\[\\] ]*\\([^;{]*\\) \\{\n(?s:.*?)\n\\1\\}").matcher(text);
-        int methods = 0;
+        methods(code);
+    }
+
+    /** Methods of one name in two classes are taken for one: so what calls what can only seem more than it is. */
+    private static void methods(String code) {
+        Map<String, Set<String>> called = new TreeMap<>();
+        Matcher method = METHOD.matcher(code);
         while (method.find()) {
-            methods++;
-            hold(method.group().lines().count() <= 60, "a long method: " + method.group().lines().findFirst().orElse(""));
+            hold(method.group().lines().count() <= MOST_LINES, "a long method: " + method.group("name"));
+            Set<String> names = called.computeIfAbsent(method.group("name"), name -> new TreeSet<>());
+            Matcher call = Pattern.compile("\\b([a-z]\\w*)\\(").matcher(method.group("body"));
+            while (call.find()) {
+                names.add(call.group(1));
+            }
         }
-        hold(methods > 60, "the methods were not found");
+        hold(called.size() > 100, "the methods were not found");
+        for (String name : called.keySet()) {
+            int deep = depth(name, called, 0);
+            hold(deep <= MOST_DEEP, name + (deep > called.size() ? " calls itself" : " calls " + deep + " deep"));
+        }
+    }
+
+    /** How many calls stand open at once, at most; more than there are methods, if one comes back to itself. */
+    private static int depth(String name, Map<String, Set<String>> called, int above) {
+        if (above > called.size()) {
+            return 1;
+        }
+        int most = 0;
+        for (String next : called.get(name)) {
+            if (called.containsKey(next)) {
+                most = Math.max(most, depth(next, called, above + 1));
+                if (above + most > called.size()) {
+                    break;
+                }
+            }
+        }
+        return most + 1;
     }
 }
